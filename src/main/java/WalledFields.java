@@ -7,6 +7,10 @@
 public final class WalledFields {
     private static final int LOW = -1000001;
     private static final long LONG_LOW = -1000000000000000001L;
+    private static final int MOST_INT = 2147483647;
+    private static final int LEAST_INT = -2147483648;
+    private static final long MOST_LONG = 9223372036854775807L;
+    private static final long LEAST_LONG = -9223372036854775808L;
 
     private static final int BEYOND = 0;
     private static final int FULL = 1;
@@ -70,7 +74,7 @@ public final class WalledFields {
         for (int s = 0; s < SHEETS; s++) {
             sheets[s] = new Sheet();
         }
-        land.survey(now);
+        settle();
     }
 
     // ---- segments
@@ -411,7 +415,7 @@ public final class WalledFields {
             int y = coordinateOf(z);
             int cell = land.thingAt(now, x, y);
             int more = cell >= END_FROM ? 1 : stepsOfCell(cell);
-            if (ledger > Long.MAX_VALUE - more) {
+            if (ledger > MOST_LONG - more) {
                 return tell(OVER);
             }
             ledger += more;
@@ -670,7 +674,7 @@ public final class WalledFields {
     /** All that follows from where the SEGMENTS lie must be found anew when they change. */
     private void settle() {
         land.survey(now);
-        searches.forgetBest();
+        searches.study();
     }
 
     private static boolean isIn(int value, int least, int most) {
@@ -732,7 +736,7 @@ public final class WalledFields {
     }
 
     private static boolean sumIsOver(long a, long b) {
-        return b > 0 ? a > Long.MAX_VALUE - b : a < Long.MIN_VALUE - b;
+        return b > 0 ? a > MOST_LONG - b : a < LEAST_LONG - b;
     }
 
     private static boolean productIsOver(long a, long b) {
@@ -741,10 +745,10 @@ public final class WalledFields {
         }
         // The test by division is blind for these: -1 times the least long is that again.
         if (a == -1) {
-            return b == Long.MIN_VALUE;
+            return b == LEAST_LONG;
         }
         if (b == -1) {
-            return a == Long.MIN_VALUE;
+            return a == LEAST_LONG;
         }
         return a * b / b != a;
     }
@@ -770,7 +774,7 @@ public final class WalledFields {
     }
 
     private int ledgerAsInt() {
-        if (now.ledger < Integer.MIN_VALUE || now.ledger > Integer.MAX_VALUE) {
+        if (now.ledger < LEAST_INT || now.ledger > MOST_INT) {
             return tell(OVER);
         }
         return (int) now.ledger;
@@ -968,8 +972,6 @@ public final class WalledFields {
         final int[] endY = new int[MOST_ENDS];
         final int[] firstEnd = new int[MOST_SEGMENTS];
         final int[] lastEnd = new int[MOST_SEGMENTS];
-        /** Of each SEGMENT the set of those (a bit each) that it lies over in any STRIP. */
-        final int[] under = new int[MOST_SEGMENTS];
         /** Of each STRIP its SEGMENTS, the lowest first. */
         final int[] stack = new int[MOST_STRIPS * MOST_SEGMENTS];
         final int[] height = new int[MOST_STRIPS];
@@ -995,7 +997,6 @@ public final class WalledFields {
                 stackSegments(estate, strip);
                 layCells(strip);
             }
-            findUnder();
             joinFields();
             openGates();
         }
@@ -1069,20 +1070,6 @@ public final class WalledFields {
                 cellFloor[cells] = c == 0 ? -1 : stack[base + c - 1];
                 cellRoof[cells] = c == high ? -1 : stack[base + c];
                 cells++;
-            }
-        }
-
-        private void findUnder() {
-            for (int i = 0; i < segments; i++) {
-                under[i] = 0;
-            }
-            for (int strip = 0; strip <= ends; strip++) {
-                int below = 0;
-                for (int k = 0; k < height[strip]; k++) {
-                    int i = stack[strip * MOST_SEGMENTS + k];
-                    under[i] |= below;
-                    below |= 1 << i;
-                }
             }
         }
 
@@ -1255,11 +1242,18 @@ public final class WalledFields {
         int depth;
         int sum;
 
-        /** The FIELD that was found latest: the gap that a CELL lies in among some SEGMENTS. */
-        private int gapFloor;
-        private int gapRoof;
+        // Sets of SEGMENTS have a bit for each. Of each SEGMENT: which lie over it, which under it
+        // in any STRIP; of each END: which SEGMENTS begin there, which ones close.
+        private final int[] over = new int[MOST_SEGMENTS];
+        private final int[] under = new int[MOST_SEGMENTS];
+        private final int[] begins = new int[MOST_ENDS];
+        private final int[] closes = new int[MOST_ENDS];
+
+        // The FIELD that findGap() found: its first and last STRIP, and which SEGMENTS lie, or
+        // would lie, over its FLOOR and under its ROOF.
         private int gapFirst;
         private int gapLast;
+        private int gapInside;
 
         private int best = UNKNOWN;
         private int bestDepth;
@@ -1276,8 +1270,33 @@ public final class WalledFields {
             this.land = land;
         }
 
-        void forgetBest() {
+        /** To be called when the land has changed. */
+        void study() {
             best = UNKNOWN;
+            for (int e = 0; e < land.ends; e++) {
+                begins[e] = 0;
+                closes[e] = 0;
+            }
+            for (int i = 0; i < land.segments; i++) {
+                over[i] = 0;
+                under[i] = 0;
+                begins[land.firstEnd[i]] |= 1 << i;
+                closes[land.lastEnd[i]] |= 1 << i;
+            }
+            for (int strip = 0; strip <= land.ends; strip++) {
+                studyStrip(strip * MOST_SEGMENTS, land.height[strip]);
+            }
+        }
+
+        private void studyStrip(int base, int high) {
+            for (int k = 1; k < high; k++) {
+                int upper = land.stack[base + k];
+                for (int l = 0; l < k; l++) {
+                    int lower = land.stack[base + l];
+                    over[lower] |= 1 << upper;
+                    under[upper] |= 1 << lower;
+                }
+            }
         }
 
         boolean isOrder(int number) {
@@ -1332,54 +1351,52 @@ public final class WalledFields {
             }
         }
 
-        /** The FIELD that a CELL lies in if there are only the SEGMENTS of a set. */
+        /** Finds the FIELD that a CELL lies in if there are only the SEGMENTS of a set. */
         private void findGap(int set, int cell) {
             int strip = land.cellStrip[cell];
             int base = strip * MOST_SEGMENTS;
             int c = cell - land.firstCell[strip];
-            gapFloor = -1;
-            gapRoof = -1;
-            for (int k = 0; k < land.height[strip]; k++) {
+            int floor = -1;
+            for (int k = c - 1; k >= 0 && floor < 0; k--) {
                 int i = land.stack[base + k];
-                if ((set >> i & 1) == 1) {
-                    if (k >= c) {
-                        gapRoof = i;
-                        break;
-                    }
-                    gapFloor = i;
-                }
+                floor = (set >> i & 1) == 1 ? i : -1;
             }
+            int roof = -1;
+            for (int k = c; k < land.height[strip] && roof < 0; k++) {
+                int i = land.stack[base + k];
+                roof = (set >> i & 1) == 1 ? i : -1;
+            }
+            gapInside = SETS - 1;
+            int least = 0;
+            int most = land.ends;
+            if (floor >= 0) {
+                gapInside &= over[floor];
+                least = land.firstEnd[floor] + 1;
+                most = land.lastEnd[floor];
+            }
+            if (roof >= 0) {
+                gapInside &= under[roof];
+                least = Math.max(least, land.firstEnd[roof] + 1);
+                most = Math.min(most, land.lastEnd[roof]);
+            }
+            // As far as FLOOR and ROOF go, the gap goes on up to an END of one of the set inside it.
+            int inner = gapInside & set;
             gapFirst = strip;
-            while (gapFirst > 0 && gapIsIn(gapFirst - 1, set)) {
+            while (gapFirst > least && (closes[gapFirst - 1] & inner) == 0) {
                 gapFirst--;
             }
             gapLast = strip;
-            while (gapLast < land.ends && gapIsIn(gapLast + 1, set)) {
+            while (gapLast < most && (begins[gapLast] & inner) == 0) {
                 gapLast++;
             }
-        }
-
-        /** Whether of a set's SEGMENTS the gap's ROOF is the next one over its FLOOR in a STRIP too. */
-        private boolean gapIsIn(int strip, int set) {
-            int base = strip * MOST_SEGMENTS;
-            int floor = -1;
-            for (int k = 0; k < land.height[strip]; k++) {
-                int i = land.stack[base + k];
-                if ((set >> i & 1) == 1) {
-                    if (floor == gapFloor) {
-                        return i == gapRoof;
-                    }
-                    floor = i;
-                }
-            }
-            return floor == gapFloor && gapRoof == -1;
         }
 
         /** STEPS that a SEGMENT adds for a CELL of a STRIP in the gap that was found latest. */
         private int stepsAt(int i, int strip) {
             int first = land.firstEnd[i];
             int last = land.lastEnd[i];
-            if (!liesInGap(i)) {
+            boolean isBeside = last < gapFirst || first >= gapLast;
+            if (isBeside || (gapInside >> i & 1) == 0) {
                 return 0;
             }
             int steps = 0;
@@ -1398,22 +1415,13 @@ public final class WalledFields {
             return steps + 1;
         }
 
-        private boolean liesInGap(int i) {
-            if (Math.max(land.firstEnd[i] + 1, gapFirst) > Math.min(land.lastEnd[i], gapLast)) {
-                return false;
-            }
-            boolean isOverFloor = gapFloor < 0 || (land.under[i] >> gapFloor & 1) == 1;
-            boolean isUnderRoof = gapRoof < 0 || (land.under[gapRoof] >> i & 1) == 1;
-            return isOverFloor && isUnderRoof;
-        }
-
         int bestOrder() {
             if (best != UNKNOWN) {
                 return best;
             }
             best = 0;
-            bestDepth = Integer.MAX_VALUE;
-            bestSum = Integer.MAX_VALUE;
+            bestDepth = MOST_INT;
+            bestSum = MOST_INT;
             triedWell = 0;
             learnSteps();
             int orders = ORDERS[land.segments];
@@ -1426,7 +1434,8 @@ public final class WalledFields {
 
         /** What a SEGMENT adds depends on the set ahead of it alone, not on that set's order. */
         private void learnSteps() {
-            for (int set = 0; set < 1 << land.segments; set++) {
+            int sets = 1 << land.segments;
+            for (int set = 0; set < sets; set++) {
                 for (int cell = 0; cell < land.cells; cell++) {
                     findGap(set, cell);
                     int packed = 0;
@@ -1485,7 +1494,9 @@ public final class WalledFields {
                 int more = known[ahead * MOST_CELLS + cell] >> shift & 3;
                 int total = totals[level * MOST_CELLS + cell] + more;
                 totals[(level + 1) * MOST_CELLS + cell] = total;
-                deepest = Math.max(deepest, total);
+                if (total > deepest) {
+                    deepest = total;
+                }
             }
             return deepest;
         }
@@ -1535,7 +1546,7 @@ public final class WalledFields {
 
         private int nearestUnsure(Land land) {
             int nearest = 0;
-            int least = Integer.MAX_VALUE;
+            int least = MOST_INT;
             for (int f = 0; f < land.fields; f++) {
                 if (!isSure[f] && costs[f] < least) {
                     least = costs[f];

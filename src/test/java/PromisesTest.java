@@ -726,6 +726,15 @@ public final class PromisesTest {
         w.seed(seed);
         due(0, w.loose(1));
         due(1, w.count(6));
+        int z = seed * 1103515245 + 12345;
+        int x = (z >>> 8) % 199 - 99;
+        for (int end = 0; end < 2; end++) {
+            w = new WalledFields();
+            w.segment(0, x, 0, x, end == 0 ? 9 : -9);
+            w.seed(seed);
+            due(0, w.loose(1));
+            due(1, w.count(6));
+        }
     }
 
     private static void book() {
@@ -911,7 +920,7 @@ public final class PromisesTest {
             "road from 0 0 to 1 - -1", "road from 100 0 to 1 1", "road from 0 -100 to 1 1", "road from 0 0 to 1 1 wide 3",
             "road from 0 0 to 0 - 0", "road from 5 5 to 5 5;", "road to 0 0 from 1 1", "roadfrom 0 0 to 1 1", "road from 0 0 to 1 1 tide 3",
             "tide 2;road from 0 0 to 1 99999999999999999999", "tide\t2", "tide 3\u00e9", "road from 0 0 to 4 4;segment from 0 4 to 4 0;",
-            "road from 0 0 to 4 4;segment from 0 4 to - 4 -0 0",
+            "road from 0 0 to 4 4;segment from 0 4 to - 4 -0 0", "tidez 3", "atide 3", "tide 3:", "tide 3/", "tide`3", "tide{3", "tide 3:tide 2",
         };
         int[] faults = {
             0, 3, 0, 4, 5, 5, 7, 8, 5, 7, 0, 0, 5,
@@ -920,7 +929,7 @@ public final class PromisesTest {
             21, 10, 13, 21,
             21, 19, 5, 0, 21,
             26, 4, 6, 43,
-            48,
+            48, 0, 0, 6, 6, 4, 4, 6,
         };
         for (int k = 0; k < texts.length; k++) {
             WalledFields w = new WalledFields();
