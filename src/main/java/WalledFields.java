@@ -140,8 +140,8 @@ public final class WalledFields {
             case 4: return wall.u;
             case 5: return wall.v;
             case 6: return Wall.tollOf(wall.kind, wall.width, now.tide);
-            case 7: return land.fieldsOver(i);
-            case 8: return land.fieldsUnder(i);
+            case 7: return land.fieldsWith(land.cellFloor, i);
+            case 8: return land.fieldsWith(land.cellRoof, i);
             default: return tell(BEYOND);
         }
     }
@@ -1174,24 +1174,15 @@ public final class WalledFields {
             return with;
         }
 
-        int fieldsOver(int i) {
-            int over = 0;
+        /** How many FIELDS have a SEGMENT as FLOOR, or as ROOF, by that row of the CELLS. */
+        int fieldsWith(int[] sidesOfCells, int i) {
+            int with = 0;
             for (int f = 0; f < fields; f++) {
-                if (cellFloor[fieldCell[f]] == i) {
-                    over++;
+                if (sidesOfCells[fieldCell[f]] == i) {
+                    with++;
                 }
             }
-            return over;
-        }
-
-        int fieldsUnder(int i) {
-            int below = 0;
-            for (int f = 0; f < fields; f++) {
-                if (cellRoof[fieldCell[f]] == i) {
-                    below++;
-                }
-            }
-            return below;
+            return with;
         }
 
         /** FLOOR (0), ROOF (1), BEGIN (2), CLOSE (3) of a FIELD. */

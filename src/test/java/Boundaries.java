@@ -3,13 +3,18 @@ import java.util.List;
 import java.util.function.Supplier;
 import java.util.function.ToLongFunction;
 
-/** What the tests of boundary cases have in common: answers that are due, refused calls, objects to try them on. */
-abstract class Boundaries {
+/** What the tests of boundary cases have in common: answers that are due, refused calls, an object to try them on. */
+abstract class Boundaries extends Lands {
     static final int BEYOND = 0, FULL = 1, KIND = 2, NONE = 3, STATE = 4, MISSING = 5, SIZE = 6, OVER = 7;
     static final int LEAST = Integer.MIN_VALUE, MOST = Integer.MAX_VALUE;
 
-    /** Coordinates that are none: the first beyond on both sides, and the farthest. */
-    static final int[] NO_COORDINATES = {-100, 100, LEAST, MOST};
+    interface OfPoint {
+        long on(WalledFields w, int x, int y);
+    }
+
+    interface OfTwoPoints {
+        long on(WalledFields w, int x, int y, int u, int v);
+    }
 
     final List<String> wrong = new ArrayList<>();
     int asked;
@@ -64,6 +69,29 @@ abstract class Boundaries {
     /** Likewise of a call that changes THE BLAME too. */
     void refusedWithBlame(Supplier<WalledFields> maker, ToLongFunction<WalledFields> call) {
         refused(STATE, finding(STATE), false, maker, call);
+    }
+
+    /** A call with a POINT is BEYOND if either number is none. */
+    void refusedBeyond(OfPoint call) {
+        for (int far : outside(-99, 99)) {
+            refused(BEYOND, Boundaries::rich, w -> call.on(w, far, 1));
+            refused(BEYOND, Boundaries::rich, w -> call.on(w, 1, far));
+        }
+    }
+
+    /** A call with two POINTS is BEYOND if any number is none. */
+    void refusedBeyond(OfTwoPoints call) {
+        for (int far : outside(-99, 99)) {
+            refused(BEYOND, Boundaries::rich, w -> call.on(w, far, 60, 61, 61));
+            refused(BEYOND, Boundaries::rich, w -> call.on(w, 60, far, 61, 61));
+            refused(BEYOND, Boundaries::rich, w -> call.on(w, 60, 60, far, 61));
+            refused(BEYOND, Boundaries::rich, w -> call.on(w, 60, 60, 61, far));
+        }
+    }
+
+    /** Numbers that aren't from least to most: the first on both sides, and the farthest. */
+    static int[] outside(int least, int most) {
+        return new int[] {least - 1, most + 1, LEAST, MOST};
     }
 
     private void refused(int k, long answer, boolean keepsBlame, Supplier<WalledFields> maker, ToLongFunction<WalledFields> call) {
@@ -172,40 +200,7 @@ abstract class Boundaries {
         all.add("text() " + w.text() + ", then TIDE " + w.count(1));
     }
 
-    // ---- objects to try calls on
-
-    static WalledFields empty() {
-        return new WalledFields();
-    }
-
-    /** A wall with a shorter one over it: ENDS (0, 0), (2, 5), (8, 5), (10, 0); FIELDS 0 to 6. */
-    static WalledFields two() {
-        WalledFields w = new WalledFields();
-        w.segment(3, 0, 0, 10, 0);
-        w.segment(2, 8, 5, 2, 5);
-        return w;
-    }
-
-    /** A triangle of TOLLS 5 each in a triangle of TOLLS 7 each. */
-    static WalledFields nested() {
-        WalledFields w = new WalledFields();
-        w.segment(5, -1, -1, 1, -1);
-        w.segment(5, 1, -1, 0, 1);
-        w.segment(5, 0, 1, -1, -1);
-        w.segment(7, -9, -9, 9, -9);
-        w.segment(7, 9, -9, 0, 9);
-        w.segment(7, 0, 9, -9, -9);
-        return w;
-    }
-
-    /** Six level walls, each begun and closed apart from all others: as many ENDS, CELLS and FIELDS as there may be. */
-    static WalledFields stack() {
-        WalledFields w = new WalledFields();
-        for (int k = 0; k < 6; k++) {
-            w.segment(10 * k + k, k - 20, 10 * k, k + 20, 10 * k);
-        }
-        return w;
-    }
+    // ---- an object to try refused calls on
 
     /** Something of all there is: walls, TIDE, LEDGER, z, THE BLAME, SHEETS, SPOTS, ROWS, THE TAPE, something kept. */
     static WalledFields rich() {
@@ -241,16 +236,5 @@ abstract class Boundaries {
         w.segment(42, 40, 10, 50, 10);
         w.segment(53, 40, 20, 50, 20);
         return w;
-    }
-
-    static void tell(WalledFields w, String text) {
-        for (int k = 0; k < text.length(); k++) {
-            w.feed(text.charAt(k), 1);
-        }
-    }
-
-    static int read(WalledFields w, String text) {
-        tell(w, text);
-        return w.text();
     }
 }

@@ -1,6 +1,6 @@
 /** Boundary cases of promises 9 to 14: many, end, field, at, near, sight. */
 final class FieldBoundaries extends Boundaries {
-    private static final int[] NO_FIELDS = {-1, 10, LEAST, MOST};
+    private static final int[] NO_FIELDS = outside(0, 9);
 
     // ---- many
 
@@ -24,7 +24,7 @@ final class FieldBoundaries extends Boundaries {
 
     @Says(promise = 9, words = "BEYOND.")
     void manyIsRefused() {
-        for (int what : new int[] {-1, 4, LEAST, MOST}) refused(BEYOND, Boundaries::rich, w -> w.many(what));
+        for (int what : outside(0, 3)) refused(BEYOND, Boundaries::rich, w -> w.many(what));
     }
 
     // ---- end
@@ -46,8 +46,8 @@ final class FieldBoundaries extends Boundaries {
 
     @Says(promise = 10, words = "BEYOND.")
     void endIsRefused() {
-        for (int e : new int[] {-1, 6, LEAST, MOST}) refused(BEYOND, Boundaries::rich, w -> w.end(e, 0));
-        for (int what : new int[] {-1, 4, LEAST, MOST}) refused(BEYOND, Boundaries::rich, w -> w.end(0, what));
+        for (int e : outside(0, 5)) refused(BEYOND, Boundaries::rich, w -> w.end(e, 0));
+        for (int what : outside(0, 3)) refused(BEYOND, Boundaries::rich, w -> w.end(0, what));
         refused(BEYOND, Boundaries::empty, w -> w.end(0, 0));
         refused(BEYOND, Boundaries::stack, w -> w.end(12, 0));
         due(5, rich().end(5, 1));
@@ -72,7 +72,7 @@ final class FieldBoundaries extends Boundaries {
     @Says(promise = 11, words = "BEYOND.")
     void fieldIsRefused() {
         for (int f : NO_FIELDS) refused(BEYOND, Boundaries::rich, w -> w.field(f, 0));
-        for (int what : new int[] {-1, 5, LEAST, MOST}) refused(BEYOND, Boundaries::rich, w -> w.field(0, what));
+        for (int what : outside(0, 4)) refused(BEYOND, Boundaries::rich, w -> w.field(0, what));
         refused(BEYOND, Boundaries::empty, w -> w.field(1, 0));
         refused(BEYOND, Boundaries::stack, w -> w.field(19, 0));
         due(1, rich().field(9, 4));
@@ -98,10 +98,7 @@ final class FieldBoundaries extends Boundaries {
 
     @Says(promise = 12, words = "BEYOND.")
     void atIsRefused() {
-        for (int far : NO_COORDINATES) {
-            refused(BEYOND, Boundaries::rich, w -> w.at(far, 0));
-            refused(BEYOND, Boundaries::rich, w -> w.at(0, far));
-        }
+        refusedBeyond((w, x, y) -> w.at(x, y));
         refused(BEYOND, Boundaries::empty, w -> w.at(100, 100));
         dueAll(row(0, 9, 0, 9), rich().at(-99, -99), rich().at(99, 99), rich().at(-99, 99), rich().at(99, -99));
     }
@@ -110,11 +107,9 @@ final class FieldBoundaries extends Boundaries {
 
     @Says(promise = 13, words = "BEYOND.")
     void nearIsRefused() {
-        for (int what : new int[] {-1, 4, LEAST, MOST}) refused(BEYOND, Boundaries::rich, w -> w.near(1, 1, what));
-        for (int far : NO_COORDINATES) {
-            refused(BEYOND, Boundaries::rich, w -> w.near(far, 1, 0));
-            refused(BEYOND, Boundaries::rich, w -> w.near(1, far, 3));
-        }
+        for (int what : outside(0, 3)) refused(BEYOND, Boundaries::rich, w -> w.near(1, 1, what));
+        refusedBeyond((w, x, y) -> w.near(x, y, 0));
+        refusedBeyond((w, x, y) -> w.near(x, y, 3));
         refused(BEYOND, Boundaries::rich, w -> w.near(0, 0, 4));
     }
 
@@ -151,12 +146,7 @@ final class FieldBoundaries extends Boundaries {
 
     @Says(promise = 14, words = "BEYOND: also both the same.")
     void sightIsRefused() {
-        for (int far : NO_COORDINATES) {
-            refused(BEYOND, Boundaries::rich, w -> w.sight(far, 0, 1, 1));
-            refused(BEYOND, Boundaries::rich, w -> w.sight(0, far, 1, 1));
-            refused(BEYOND, Boundaries::rich, w -> w.sight(0, 0, far, 1));
-            refused(BEYOND, Boundaries::rich, w -> w.sight(0, 0, 1, far));
-        }
+        refusedBeyond((w, x, y, u, v) -> w.sight(x, y, u, v));
         refused(BEYOND, Boundaries::rich, w -> w.sight(5, 5, 5, 5));
         refused(BEYOND, Boundaries::empty, w -> w.sight(99, 99, 99, 99));
         dueAll(row(0, 0), empty().sight(99, 99, 99, 98), empty().sight(98, 99, 99, 99));

@@ -87,7 +87,7 @@ final class ImageBoundaries extends Boundaries {
 
     @Says(promise = 44, words = "BEYOND.")
     void countIsRefused() {
-        for (int what : new int[] {-1, 7, LEAST, MOST}) refused(BEYOND, Boundaries::rich, w -> w.count(what));
+        for (int what : outside(0, 6)) refused(BEYOND, Boundaries::rich, w -> w.count(what));
     }
 
     /** As stack(), with a LEDGER. */
@@ -135,7 +135,7 @@ final class ImageBoundaries extends Boundaries {
 
     @Says(promise = 45, words = "BEYOND (counted from then on): another one.")
     void statusIsRefused() {
-        for (int which : new int[] {-2, 8, LEAST, MOST}) refused(BEYOND, Boundaries::rich, w -> w.status(which));
+        for (int which : outside(-1, 7)) refused(BEYOND, Boundaries::rich, w -> w.status(which));
         WalledFields w = empty();
         dueAll(row(0, 0), w.status(0), w.status(-1));
         due(finding(BEYOND), w.status(8));

@@ -1,5 +1,5 @@
 /** Each promise by itself: ordinary calls, the edges that the document names, wrong calls and their order. */
-public final class PromisesTest {
+public final class PromisesTest extends Lands {
     private static final int BEYOND = -1000001, FULL = -1000002, KIND = -1000003, NONE = -1000004;
     private static final int STATE = -1000005, MISSING = -1000006, SIZE = -1000007, OVER = -1000008;
     private static final long LONG_BEYOND = -1000000000000000001L;
@@ -83,35 +83,6 @@ public final class PromisesTest {
         promise = 45; status();
         System.out.println(wrong == 0 ? asked + " answers are as due" : wrong + " of " + asked + " answers are not as due");
         if (wrong != 0) System.exit(1);
-    }
-
-    /** A wall with a shorter one over it: ENDS (0, 0), (2, 5), (8, 5), (10, 0); FIELDS 0 to 6. */
-    private static WalledFields two() {
-        WalledFields w = new WalledFields();
-        w.segment(3, 0, 0, 10, 0);
-        w.segment(2, 8, 5, 2, 5);
-        return w;
-    }
-
-    /** A triangle of TOLLS 5 each in a triangle of TOLLS 7 each. */
-    private static WalledFields nested() {
-        WalledFields w = new WalledFields();
-        w.segment(5, -1, -1, 1, -1);
-        w.segment(5, 1, -1, 0, 1);
-        w.segment(5, 0, 1, -1, -1);
-        w.segment(7, -9, -9, 9, -9);
-        w.segment(7, 9, -9, 0, 9);
-        w.segment(7, 0, 9, -9, -9);
-        return w;
-    }
-
-    private static void tell(WalledFields w, String text) {
-        for (int k = 0; k < text.length(); k++) w.feed(text.charAt(k), 1);
-    }
-
-    private static int read(WalledFields w, String text) {
-        tell(w, text);
-        return w.text();
     }
 
     private static void newObject() {

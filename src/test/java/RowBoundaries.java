@@ -2,7 +2,7 @@ import java.util.Arrays;
 
 /** Boundary cases of promises 25 to 32: asks, loose, book, seed, prove, row, alter, judge. */
 final class RowBoundaries extends Boundaries {
-    private static final int[] NO_SHEETS = {-1, 4, LEAST, MOST};
+    private static final int[] NO_SHEETS = outside(0, 3);
 
     /** As two(), with a SHEET 0 of these numbers. */
     private static WalledFields asking(int sort, long... numbers) {
@@ -235,7 +235,7 @@ final class RowBoundaries extends Boundaries {
 
     @Says(promise = 27, words = "BEYOND.")
     void bookIsRefused() {
-        for (int what : new int[] {-1, 2, LEAST, MOST}) {
+        for (int what : outside(0, 1)) {
             refusedLong(BEYOND, Boundaries::rich, w -> w.book(what, 1));
             refusedLong(BEYOND, Boundaries::rich, w -> w.book(what, Long.MAX_VALUE));
         }
@@ -296,8 +296,8 @@ final class RowBoundaries extends Boundaries {
 
     @Says(promise = 30, words = "BEYOND.")
     void rowIsRefused() {
-        for (int k : new int[] {-1, 10, LEAST, MOST}) refused(BEYOND, Boundaries::rich, w -> w.row(k, 0));
-        for (int what : new int[] {-1, 4, LEAST, MOST}) refused(BEYOND, Boundaries::rich, w -> w.row(0, what));
+        for (int k : outside(0, 9)) refused(BEYOND, Boundaries::rich, w -> w.row(k, 0));
+        for (int what : outside(0, 3)) refused(BEYOND, Boundaries::rich, w -> w.row(0, what));
         refused(BEYOND, Boundaries::stack, w -> w.row(0, 0));
         refused(BEYOND, RowBoundaries::provenStack, w -> w.row(19, 0));
         dueAll(row(-1, -1), rich().row(9, 3), provenStack().row(18, 3));
@@ -321,8 +321,8 @@ final class RowBoundaries extends Boundaries {
 
     @Says(promise = 31, words = "BEYOND.")
     void alterIsRefused() {
-        for (int k : new int[] {-1, 10, LEAST, MOST}) refused(BEYOND, Boundaries::rich, w -> w.alter(k, 0, 5));
-        for (int what : new int[] {-1, 4, LEAST, MOST}) refused(BEYOND, Boundaries::rich, w -> w.alter(0, what, 5));
+        for (int k : outside(0, 9)) refused(BEYOND, Boundaries::rich, w -> w.alter(k, 0, 5));
+        for (int what : outside(0, 3)) refused(BEYOND, Boundaries::rich, w -> w.alter(0, what, 5));
         refused(BEYOND, Boundaries::empty, w -> w.alter(0, 0, 5));
         refused(BEYOND, RowBoundaries::provenStack, w -> w.alter(19, 0, 5));
     }

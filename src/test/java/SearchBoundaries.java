@@ -23,10 +23,7 @@ final class SearchBoundaries extends Boundaries {
 
     @Says(promise = 15, words = "BEYOND.")
     void stepsBeyond() {
-        for (int far : NO_COORDINATES) {
-            refused(BEYOND, Boundaries::rich, w -> w.steps(far, 0));
-            refused(BEYOND, Boundaries::rich, w -> w.steps(0, far));
-        }
+        refusedBeyond((w, x, y) -> w.steps(x, y));
     }
 
     @Says(promise = 15, words = "STATE: it is an END, or on a SEGMENT.")
@@ -48,7 +45,7 @@ final class SearchBoundaries extends Boundaries {
 
     @Says(promise = 16, words = "BEYOND.")
     void depthIsRefused() {
-        for (int what : new int[] {-1, 2, LEAST, MOST}) refused(BEYOND, Boundaries::rich, w -> w.depth(what));
+        for (int what : outside(0, 1)) refused(BEYOND, Boundaries::rich, w -> w.depth(what));
     }
 
     // ---- ordered
@@ -115,6 +112,25 @@ final class SearchBoundaries extends Boundaries {
         dueAll(row(w.ordered(0, 0), w.ordered(0, 1)), w.ordered(w.best(), 0), w.ordered(w.best(), 1));
         due(0, w.best());
         due(0, w.status(-1));
+    }
+
+    @Says(promise = 18, words = "BEST ORDER")
+    void bestIsFoundAnewWithEachWall() {
+        int[][] walls = {{0, 4, 3, 0}, {4, 0, 1, 3}, {1, 4, 4, 0}, {-9, 0, -8, 5}, {-9, 9, 9, 9}, {5, 5, 5, 7}};
+        WalledFields growing = empty();
+        for (int many = 0; many <= 6; many++) {
+            WalledFields w = empty();
+            for (int k = 0; k < many; k++) w.segment(0, walls[k][0], walls[k][1], walls[k][2], walls[k][3]);
+            due(many, w.count(0));
+            due(w.best(), growing.best());
+            if (many < 6) growing.segment(0, walls[many][0], walls[many][1], walls[many][2], walls[many][3]);
+        }
+        for (int many = 5; many >= 0; many--) {
+            growing.drop();
+            WalledFields w = empty();
+            for (int k = 0; k < many; k++) w.segment(0, walls[k][0], walls[k][1], walls[k][2], walls[k][3]);
+            due(w.best(), growing.best());
+        }
     }
 
     // ---- renumber

@@ -2,8 +2,6 @@ import java.util.List;
 
 /** Boundary cases of promises 1 to 8: a new object, segment, move, become, drop, of, tide, blame. */
 final class SegmentBoundaries extends Boundaries {
-    private static final int[] NO_KM = {-1, 60, LEAST, MOST};
-
     // ---- a new object
 
     @Says(promise = 1, words = "All as at first; no SEGMENTS.")
@@ -50,13 +48,8 @@ final class SegmentBoundaries extends Boundaries {
 
     @Says(promise = 2, words = "BEYOND: also both the same.")
     void segmentOfNoPointsOrKind() {
-        for (int km : NO_KM) refused(BEYOND, Boundaries::rich, w -> w.segment(km, 60, 60, 61, 61));
-        for (int far : NO_COORDINATES) {
-            refused(BEYOND, Boundaries::rich, w -> w.segment(0, far, 60, 61, 61));
-            refused(BEYOND, Boundaries::rich, w -> w.segment(0, 60, far, 61, 61));
-            refused(BEYOND, Boundaries::rich, w -> w.segment(0, 60, 60, far, 61));
-            refused(BEYOND, Boundaries::rich, w -> w.segment(0, 60, 60, 61, far));
-        }
+        for (int km : outside(0, 59)) refused(BEYOND, Boundaries::rich, w -> w.segment(km, 60, 60, 61, 61));
+        refusedBeyond((w, x, y, u, v) -> w.segment(0, x, y, u, v));
         refused(BEYOND, Boundaries::rich, w -> w.segment(0, 60, 60, 60, 60));
         refused(BEYOND, Boundaries::empty, w -> w.segment(0, 0, 0, 0, 0));
         refused(BEYOND, Boundaries::rich, w -> w.segment(0, 99, -99, 99, -99));
@@ -108,15 +101,10 @@ final class SegmentBoundaries extends Boundaries {
 
     @Says(promise = 3, words = "BEYOND, STATE likewise.")
     void moveIsRefused() {
-        for (int i : new int[] {-1, 3, LEAST, MOST}) refused(BEYOND, Boundaries::rich, w -> w.move(i, 60, 60, 61, 61));
+        for (int i : outside(0, 2)) refused(BEYOND, Boundaries::rich, w -> w.move(i, 60, 60, 61, 61));
         refused(BEYOND, Boundaries::richAndFull, w -> w.move(6, 60, 60, 61, 61));
         refused(BEYOND, Boundaries::empty, w -> w.move(0, 60, 60, 61, 61));
-        for (int far : NO_COORDINATES) {
-            refused(BEYOND, Boundaries::rich, w -> w.move(0, far, 60, 61, 61));
-            refused(BEYOND, Boundaries::rich, w -> w.move(0, 60, far, 61, 61));
-            refused(BEYOND, Boundaries::rich, w -> w.move(0, 60, 60, far, 61));
-            refused(BEYOND, Boundaries::rich, w -> w.move(0, 60, 60, 61, far));
-        }
+        refusedBeyond((w, x, y, u, v) -> w.move(0, x, y, u, v));
         refused(BEYOND, Boundaries::rich, w -> w.move(0, 60, 60, 60, 60));
         refusedWithBlame(Boundaries::rich, w -> w.move(0, 2, 5, 8, 5));
         refusedWithBlame(Boundaries::rich, w -> w.move(2, 5, 1, 5, -1));
@@ -143,8 +131,8 @@ final class SegmentBoundaries extends Boundaries {
 
     @Says(promise = 4, words = "BEYOND.")
     void becomeIsRefused() {
-        for (int i : new int[] {-1, 3, LEAST, MOST}) refused(BEYOND, Boundaries::rich, w -> w.become(i, 0));
-        for (int km : NO_KM) refused(BEYOND, Boundaries::rich, w -> w.become(0, km));
+        for (int i : outside(0, 2)) refused(BEYOND, Boundaries::rich, w -> w.become(i, 0));
+        for (int km : outside(0, 59)) refused(BEYOND, Boundaries::rich, w -> w.become(0, km));
         refused(BEYOND, Boundaries::richAndFull, w -> w.become(6, 0));
         refused(BEYOND, Boundaries::empty, w -> w.become(0, 0));
     }
@@ -199,8 +187,8 @@ final class SegmentBoundaries extends Boundaries {
 
     @Says(promise = 6, words = "BEYOND.")
     void ofIsRefused() {
-        for (int i : new int[] {-1, 3, LEAST, MOST}) refused(BEYOND, Boundaries::rich, w -> w.of(i, 0));
-        for (int what : new int[] {-1, 9, LEAST, MOST}) refused(BEYOND, Boundaries::rich, w -> w.of(0, what));
+        for (int i : outside(0, 2)) refused(BEYOND, Boundaries::rich, w -> w.of(i, 0));
+        for (int what : outside(0, 8)) refused(BEYOND, Boundaries::rich, w -> w.of(0, what));
         refused(BEYOND, Boundaries::richAndFull, w -> w.of(6, 8));
         refused(BEYOND, Boundaries::empty, w -> w.of(0, 0));
     }
@@ -216,7 +204,7 @@ final class SegmentBoundaries extends Boundaries {
 
     @Says(promise = 7, words = "BEYOND.")
     void tideIsRefused() {
-        for (int v : new int[] {-1, 4, LEAST, MOST}) refused(BEYOND, Boundaries::rich, w -> w.tide(v));
+        for (int v : outside(0, 3)) refused(BEYOND, Boundaries::rich, w -> w.tide(v));
     }
 
     // ---- blame
@@ -246,6 +234,6 @@ final class SegmentBoundaries extends Boundaries {
 
     @Says(promise = 8, words = "BEYOND.")
     void blameIsRefused() {
-        for (int what : new int[] {-1, 3, LEAST, MOST}) refused(BEYOND, Boundaries::rich, w -> w.blame(what));
+        for (int what : outside(0, 2)) refused(BEYOND, Boundaries::rich, w -> w.blame(what));
     }
 }

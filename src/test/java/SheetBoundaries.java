@@ -1,6 +1,6 @@
 /** Boundary cases of promises 36 to 41: sheet, write, item, copy, hold, taken. */
 final class SheetBoundaries extends Boundaries {
-    private static final int[] NO_SHEETS = {-1, 4, LEAST, MOST};
+    private static final int[] NO_SHEETS = outside(0, 3);
     private static final long[] LONGS = {0, 1, -1, 127, 128, -128, -129, 255, 256, MOST, MOST + 1L, LEAST, LEAST - 1L, 1L << 32, Long.MAX_VALUE, Long.MIN_VALUE, longFinding(BEYOND)};
 
     // ---- sheet
@@ -51,7 +51,7 @@ final class SheetBoundaries extends Boundaries {
             refused(BEYOND, Boundaries::rich, w -> w.sheet(s, -1, 3));
             refused(BEYOND, Boundaries::rich, w -> w.sheet(s, 0, -1));
         }
-        for (int sort : new int[] {-2, 3, LEAST, MOST}) {
+        for (int sort : outside(-1, 2)) {
             refused(BEYOND, Boundaries::rich, w -> w.sheet(0, sort, 3));
             refused(BEYOND, Boundaries::rich, w -> w.sheet(0, sort, -1));
             refused(BEYOND, Boundaries::rich, w -> w.sheet(3, sort, 0));
@@ -299,11 +299,9 @@ final class SheetBoundaries extends Boundaries {
 
     @Says(promise = 40, words = "BEYOND.")
     void holdIsRefused() {
-        for (int spot : new int[] {-1, 10, LEAST, MOST}) refused(BEYOND, Boundaries::rich, w -> w.hold(spot, 0, 0));
-        for (int far : NO_COORDINATES) {
-            refused(BEYOND, Boundaries::rich, w -> w.hold(0, far, 0));
-            refused(BEYOND, Boundaries::rich, w -> w.hold(3, 0, far));
-        }
+        for (int spot : outside(0, 9)) refused(BEYOND, Boundaries::rich, w -> w.hold(spot, 0, 0));
+        refusedBeyond((w, x, y) -> w.hold(0, x, y));
+        refusedBeyond((w, x, y) -> w.hold(9, x, y));
     }
 
     @Says(promise = 41, words = "as an END (7): 1000 times x, and y;")
@@ -343,8 +341,8 @@ final class SheetBoundaries extends Boundaries {
 
     @Says(promise = 41, words = "BEYOND.")
     void takenBeyond() {
-        for (int spot : new int[] {-1, 10, LEAST, MOST}) refused(BEYOND, Boundaries::rich, w -> w.taken(spot, 6));
-        for (int as : new int[] {-1, 8, LEAST, MOST}) {
+        for (int spot : outside(0, 9)) refused(BEYOND, Boundaries::rich, w -> w.taken(spot, 6));
+        for (int as : outside(0, 7)) {
             refused(BEYOND, Boundaries::rich, w -> w.taken(0, as));
             refused(BEYOND, Boundaries::rich, w -> w.taken(9, as));
         }

@@ -114,15 +114,9 @@ final class TermBoundaries extends Boundaries {
 
     @Says(words = "POINTS have x and y (-99 to 99). ORDER")
     void onePlaceFartherThereIsNoPoint() {
-        for (int far : NO_COORDINATES) {
-            refused(BEYOND, Boundaries::rich, w -> w.at(far, 1));
-            refused(BEYOND, Boundaries::rich, w -> w.at(1, far));
-            for (int k = 0; k < 4; k++) {
-                int x = k == 0 ? far : 60, y = k == 1 ? far : 60, u = k == 2 ? far : 61, v = k == 3 ? far : 61;
-                refused(BEYOND, Boundaries::rich, w -> w.segment(0, x, y, u, v));
-                refused(BEYOND, Boundaries::rich, w -> w.lose(x, y, u, v));
-            }
-        }
+        refusedBeyond((w, x, y) -> w.at(x, y));
+        refusedBeyond((w, x, y, u, v) -> w.segment(0, x, y, u, v));
+        refusedBeyond((w, x, y, u, v) -> w.lose(x, y, u, v));
     }
 
     @Says(words = "ORDER: the lesser x first, of like x the lesser y.")

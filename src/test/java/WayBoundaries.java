@@ -1,6 +1,6 @@
 /** Boundary cases of promises 20 to 24: cost, next, within, lose, kindFor. */
 final class WayBoundaries extends Boundaries {
-    private static final int[] NO_FIELDS = {-1, 10, LEAST, MOST};
+    private static final int[] NO_FIELDS = outside(0, 9);
 
     /** A triangle whose walls are of one KIND and WIDTH. */
     private static WalledFields triangle(int km) {
@@ -105,7 +105,7 @@ final class WayBoundaries extends Boundaries {
     @Says(promise = 22, words = "BEYOND.")
     void withinIsRefused() {
         for (int f : NO_FIELDS) refused(BEYOND, Boundaries::rich, w -> w.within(f, 0));
-        for (int c : new int[] {-1, 1000, LEAST, MOST}) refused(BEYOND, Boundaries::rich, w -> w.within(0, c));
+        for (int c : outside(0, 999)) refused(BEYOND, Boundaries::rich, w -> w.within(0, c));
         refused(BEYOND, Boundaries::empty, w -> w.within(1, 0));
         refused(BEYOND, Boundaries::stack, w -> w.within(19, 999));
         due(19, stack().within(18, 0));
@@ -135,13 +135,10 @@ final class WayBoundaries extends Boundaries {
 
     @Says(promise = 23, words = "BEYOND: POINTS.")
     void losePointsBeyond() {
-        for (int far : NO_COORDINATES) {
-            refused(BEYOND, Boundaries::rich, w -> w.lose(far, 0, 1, 1));
-            refused(BEYOND, Boundaries::rich, w -> w.lose(0, far, 1, 1));
-            refused(BEYOND, Boundaries::rich, w -> w.lose(0, 0, far, 1));
-            refused(BEYOND, Boundaries::rich, w -> w.lose(0, 0, 1, far));
-            refused(BEYOND, Boundaries::empty, w -> w.lose(0, 0, 1, far));
-        }
+        refusedBeyond((w, x, y, u, v) -> w.lose(x, y, u, v));
+        // Also where a POINT is an END, or there are no SEGMENTS.
+        refused(BEYOND, Boundaries::rich, w -> w.lose(0, 0, 1, 100));
+        refused(BEYOND, Boundaries::empty, w -> w.lose(100, 0, 1, 1));
     }
 
     @Says(promise = 23, words = "STATE: one is an END, or on a SEGMENT (now).")
@@ -194,13 +191,9 @@ final class WayBoundaries extends Boundaries {
 
     @Says(promise = 24, words = "BEYOND.")
     void kindForBeyond() {
-        for (int i : new int[] {-1, 3, LEAST, MOST}) refused(BEYOND, Boundaries::rich, w -> w.kindFor(i, 1, 1, 2, 2));
-        for (int far : NO_COORDINATES) {
-            refused(BEYOND, Boundaries::rich, w -> w.kindFor(0, far, 0, 1, 1));
-            refused(BEYOND, Boundaries::rich, w -> w.kindFor(0, 0, far, 1, 1));
-            refused(BEYOND, Boundaries::rich, w -> w.kindFor(0, 0, 0, far, 1));
-            refused(BEYOND, Boundaries::rich, w -> w.kindFor(0, 0, 0, 1, far));
-        }
+        for (int i : outside(0, 2)) refused(BEYOND, Boundaries::rich, w -> w.kindFor(i, 1, 1, 2, 2));
+        refusedBeyond((w, x, y, u, v) -> w.kindFor(0, x, y, u, v));
+        refused(BEYOND, Boundaries::rich, w -> w.kindFor(0, 0, 0, 1, -100));
         refused(BEYOND, Boundaries::empty, w -> w.kindFor(0, 1, 1, 2, 2));
         refused(BEYOND, Boundaries::richAndFull, w -> w.kindFor(6, 0, 0, 2, 2));
         due(0, rich().kindFor(2, 1, 1, 2, 2));
