@@ -18,7 +18,7 @@ final class ImageBoundaries extends Boundaries {
         w.become(0, 59);
         w.move(5, -99, -99, -98, -98);
         w.renumber(719);
-        while (w.count(0) > 0) w.drop();
+        dropAll(w);
         w.tide(0);
         w.book(1, 0);
         w.seed(1);

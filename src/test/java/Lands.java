@@ -33,6 +33,12 @@ abstract class Lands {
         return w;
     }
 
+    static void dropAll(WalledFields w) {
+        for (int left = w.count(0); left > 0; left--) {
+            w.drop();
+        }
+    }
+
     static void tell(WalledFields w, String text) {
         for (int k = 0; k < text.length(); k++) {
             w.feed(text.charAt(k), 1);

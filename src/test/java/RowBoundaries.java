@@ -277,7 +277,7 @@ final class RowBoundaries extends Boundaries {
         }
         // What was altered is told anew, and what there was more of is gone.
         w.alter(0, 0, 5);
-        while (w.count(0) > 0) w.drop();
+        dropAll(w);
         due(19, w.count(3));
         due(1, w.prove());
         due(-1, w.row(0, 0));

@@ -322,7 +322,7 @@ final class SheetBoundaries extends Boundaries {
         WalledFields w = stack();
         w.hold(0, 99, 99);
         w.hold(1, -99, -99);
-        while (w.count(0) > 0) w.drop();
+        dropAll(w);
         dueAll(row(18, 0, 2), w.taken(0, 6), w.taken(1, 6), w.count(4));
     }
 
