@@ -64,6 +64,34 @@ final class WayBoundaries extends Boundaries {
         dueAll(row(3, 2), w.next(2, 0), w.next(4, 0));
     }
 
+    @Says(promise = 21, words = "A FIELD of CELLS next to any of f (by a TOLL, or for nothing)")
+    void neverFItself() {
+        // A short wall high above cuts what is inside ahead of the top into three CELLS, which are next to one another.
+        WalledFields w = triangle(5);
+        w.become(1, 4);
+        w.segment(0, -5, 50, -4, 50);
+        dueAll(row(2, 3, 7), w.at(-5, 1), w.field(2, 4), w.at(5, 1));
+        dueAll(row(3, 3, 3, 7), w.next(2, 0), w.next(2, 1), w.next(2, 3), w.next(2, 7));
+        // For nothing, at its last CELL alone.
+        w.become(1, 5);
+        w.become(2, 4);
+        dueAll(row(7, 7), w.next(2, 0), w.next(2, 9));
+        // Back for nothing, and then by the same TOLL, it is COST too: of 2 and 8 the lesser.
+        due(2, w.next(7, 8));
+    }
+
+    @Says(promise = 21, words = "A FIELD of CELLS next to any of f")
+    void neverOneThatIsNotNext() {
+        // Ahead of the triangle, away from it, another one of TOLL 1: what is in that lies one farther off than what is behind all.
+        WalledFields w = triangle(5);
+        w.segment(1, -39, 0, -21, 0);
+        w.segment(1, -39, 0, -30, 9);
+        w.segment(1, -30, 9, -21, 0);
+        dueAll(row(13, 2, 8), w.many(2), w.at(-35, 1), w.at(-5, 1));
+        dueAll(row(6, 5), w.cost(2, 8), w.cost(12, 8));
+        dueAll(row(7, 1, 1), w.next(12, 8), w.next(6, 8), w.next(2, 8));
+    }
+
     @Says(promise = 21, words = "BEYOND.")
     void nextBeyond() {
         for (int f : NO_FIELDS) {
