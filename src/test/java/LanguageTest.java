@@ -1,4 +1,6 @@
 import java.io.IOException;
+import java.io.PrintWriter;
+import java.io.StringWriter;
 import java.lang.reflect.Constructor;
 import java.lang.reflect.Field;
 import java.lang.reflect.Method;
@@ -8,15 +10,22 @@ import java.nio.file.Path;
 import java.util.ArrayList;
 import java.util.Arrays;
 import java.util.List;
+import java.util.Map;
 import java.util.Set;
+import java.util.TreeMap;
 import java.util.TreeSet;
 import java.util.regex.Matcher;
 import java.util.regex.Pattern;
+import java.util.spi.ToolProvider;
 
 /** The face of the document, and those rules of LANGUAGE.md that can be seen without understanding. */
 public final class LanguageTest {
     private static final Path SOURCE = Path.of("src/main/java/WalledFields.java");
     private static final Path DOCUMENT = Path.of("../shared/DOC.md");
+    private static final int DEEPEST = 8;
+    // What is in use of that which rule 4 allows; whoever needs more of it adds it here.
+    private static final Set<String> LIBRARY = Set.of("java/lang/Object.<init>", "java/lang/Math.max", "java/lang/Math.min",
+        "java/lang/String.length", "java/lang/String.charAt", "java/lang/System.arraycopy");
     private static int wrong;
 
     private static void check(boolean isRight, String what) {
@@ -35,6 +44,7 @@ public final class LanguageTest {
         String source = Files.readString(SOURCE);
         checkWords(source);
         checkLengths(source);
+        checkCalls(classes);
         System.out.println(wrong == 0 ? "the rules that can be seen are kept" : wrong + " rules are not kept");
         if (wrong != 0) System.exit(1);
     }
@@ -110,6 +120,56 @@ public final class LanguageTest {
             int to = from;
             while (to < lines.length && !lines[to].equals(close)) to++;
             check(to - from < 60, "a method of " + (to - from + 1) + " lines: " + lines[from].trim());
+        }
+    }
+
+    /** What the compiled methods call: no library but what is known to be allowed, no recursion, not too deep. */
+    private static void checkCalls(List<Class<?>> classes) {
+        Map<String, Set<String>> calls = new TreeMap<>();
+        for (Class<?> type : classes) {
+            addCalls(type.getName(), calls);
+        }
+        check(calls.size() > 45, "only " + calls.size() + " methods were seen");
+        Set<String> strange = new TreeSet<>();
+        calls.values().forEach(strange::addAll);
+        strange.removeAll(calls.keySet());
+        strange.removeAll(LIBRARY);
+        check(strange.isEmpty(), "the program calls " + strange);
+        for (String method : calls.keySet()) {
+            checkDepth(List.of(method), calls);
+        }
+    }
+
+    private static void addCalls(String type, Map<String, Set<String>> calls) {
+        StringWriter told = new StringWriter();
+        PrintWriter writer = new PrintWriter(told);
+        int code = ToolProvider.findFirst("javap").orElseThrow()
+            .run(writer, writer, "-c", "-p", "-cp", System.getProperty("java.class.path"), type);
+        check(code == 0, "javap tells nothing of " + type + ": " + told);
+        Pattern head = Pattern.compile("^  (?=\\S)(?:[^(]* )?([\\w$]+)\\(.*\\);$");
+        Pattern call = Pattern.compile("// (?:Interface)?Method ([^:]+):");
+        String method = "";
+        for (String line : told.toString().split("\\R")) {
+            Matcher begun = head.matcher(line);
+            Matcher called = call.matcher(line);
+            if (begun.find()) {
+                method = type + "." + (begun.group(1).equals(type) ? "<init>" : begun.group(1));
+                calls.putIfAbsent(method, new TreeSet<>());
+            } else if (called.find() && !method.isEmpty()) {
+                String name = called.group(1).replace("\"", "");
+                calls.get(method).add(name.contains(".") ? name : type + "." + name);
+            }
+        }
+    }
+
+    private static void checkDepth(List<String> open, Map<String, Set<String>> calls) {
+        check(open.size() <= DEEPEST, "calls too deep: " + open);
+        for (String next : calls.getOrDefault(open.get(open.size() - 1), Set.of())) {
+            check(!open.contains(next), next + " calls itself by " + open);
+            if (open.size() > DEEPEST || open.contains(next)) continue;
+            List<String> more = new ArrayList<>(open);
+            more.add(next);
+            checkDepth(more, calls);
         }
     }
 }
